@@ -211,7 +211,7 @@ public final class PromiseTest {
         promise = 4;
         StreetTongues x = tell(new StreetTongues(), "x");
         x.town();
-        tell(x, "t2;").town();
+        due("town() behind a faulty one", tell(x, "t2;s0 1;").town(), 1);
         due("fault() behind a town that stands", x.fault(), NONE);
     }
 
@@ -302,6 +302,9 @@ public final class PromiseTest {
         for (int k = 0; k < 20; k++) x.say(0, false, 3);
         due("told(9), the log has lost them", x.told(9), NONE);
         due("told(10)", x.told(10), 20);
+        StreetTongues y = townOf("t2;s0 1;s0 1;i0 1 3 0 0 0;");
+        y.say(0, false, 21);
+        due("told(9), the first word", y.told(9), 0);
     }
 
     private static void pencesAreCapped() {
@@ -631,6 +634,7 @@ public final class PromiseTest {
             due("through(0, 0, 0, bad, 2)", x.through(0, 0, 0, bad, 2), UNKNOWN);
             due("through(0, 0, 0, 0, bad)", x.through(0, 0, 0, 0, bad), OUTSIDE);
         }
+        due("through(0, 0, 0, 0, 2)", x.through(0, 0, 0, 0, 2), OUTSIDE);
         x.shut(3, true);
         due("through(3, 0, 2, 0, 0), shut", x.through(3, 0, 2, 0, 0), NONE);
         due("through(3, 0, 3, 0, 0), shut", x.through(3, 0, 3, 0, 0), 0);
@@ -640,6 +644,7 @@ public final class PromiseTest {
         promise = 20;
         StreetTongues x = townOf(SQUARE);
         due("code(0, 2, 0)", x.code(0, 2, 0), 8);
+        due("code(0, 1, 1)", x.code(0, 1, 1), 1);
         x.shut(1, true);
         due("code(0, 2, 2), two words", x.code(0, 2, 2), 12);
         due("code(0, 2, 3), no word", x.code(0, 2, 3), 0);
@@ -686,6 +691,9 @@ public final class PromiseTest {
         due("ring(0, 1, 1)", y.ring(0, 1, 1), 2);
         due("ring(0, 0, 1)", y.ring(0, 0, 1), 2);
         due("ring(0, 0, 0), it never comes back", y.ring(0, 0, 0), NONE);
+        StreetTongues round = townOf("t3;s0 1;s0 1;s0 1;i0 1 2 1 0 0;i1 2 3 0 0 0;i0 2 3 0 0 0;");
+        due("ring(0, 0, 1), round", round.ring(0, 0, 1), 3);
+        due("ring(0, 0, 2), the other way round", round.ring(0, 0, 2), 3);
     }
 
     private static void mores() {
@@ -694,6 +702,9 @@ public final class PromiseTest {
         due("more(0)", x.more(0), 3);
         due("more(1)", x.more(1), 12);
         due("more(2)", x.more(2), OUTSIDE);
+        x.shut(3, true);
+        due("more(0), 3 has no way", x.more(0), 13);
+        due("more(1), 3 has no way", x.more(1), 18);
         due("more(-1)", x.more(-1), OUTSIDE);
         due("more(2) without a town", new StreetTongues().more(2), OUTSIDE);
         due("more(0), one street", townOf("t2;s0 1;").more(0), NONE);
@@ -802,6 +813,12 @@ public final class PromiseTest {
         x.see(0, 1);
         due("slips(0)", x.slips(0), 0);
         due("slips(1)", x.slips(1), NONE);
+        StreetTongues two = townOf("t2;");
+        due("slips(0), 1, 2, 1, 1", two.slips(0), 5);
+        two.see(0, 0);
+        two.see(1, 1);
+        due("slips(0), plain", two.slips(0), 1);
+        due("slips(1), plain", two.slips(1), 300);
     }
 
     private static void trying() {
