@@ -124,7 +124,8 @@ public final class ModelTest {
     private int saying() {
         if (chance(25)) return new int[] {0, -1, 11111, 10, 9, 99, 101, 1110, -11, Integer.MIN_VALUE}[random.nextInt(10)];
         int s = 0;
-        for (int figures = 1 + random.nextInt(4); figures > 0; figures--) s = 10 * s + 1 + random.nextInt(Math.max(1, words));
+        int beyond = chance(25) ? 1 : 0;
+        for (int figures = 1 + random.nextInt(4); figures > 0; figures--) s = 10 * s + 1 + random.nextInt(Math.max(1, words + beyond));
         return s;
     }
 

@@ -379,7 +379,7 @@ public final class PromiseTest {
     }
 
     private static void refusedSayings(StreetTongues x) {
-        for (int s : new int[] {0, -1, 5, 10, 101, 1115, 11111, 4444 * 10 + 4, LEAST, MOST}) {
+        for (int s : new int[] {0, -1, 5, 10, 101, 1115, 1151, 1511, 5111, 11111, 44444, LEAST, MOST}) {
             due("say(0, false, " + s + ")", x.say(0, false, s), OUTSIDE);
             due("send(0, 1, " + s + ")", x.send(0, 1, s), OUTSIDE);
         }
@@ -850,7 +850,7 @@ public final class PromiseTest {
         StreetTongues x = townOf(SQUARE);
         due("write(4, 99)", x.write(4, 99), UNKNOWN);
         due("write(-1, 0)", x.write(-1, 0), UNKNOWN);
-        for (int s : new int[] {-1, 5, 10, 11111, LEAST, MOST}) due("write(0, " + s + ")", x.write(0, s), OUTSIDE);
+        for (int s : new int[] {-1, 5, 10, 5111, 11111, LEAST, MOST}) due("write(0, " + s + ")", x.write(0, s), OUTSIDE);
         for (int k = 1; k <= 15; k++) due("write(0, 0)", x.write(0, k % 2 * 4444), k);
         due("write(0, 0)", x.write(0, 0), FULL);
         due("write(0, 5)", x.write(0, 5), OUTSIDE);
