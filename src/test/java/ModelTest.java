@@ -57,7 +57,12 @@ public final class ModelTest {
         if (wrong == 0) System.out.println(calls);
     }
 
+    /** A text for which too few of the object's calls are left ends the run. */
     private void tell(String text) {
+        if (used + text.length() + 2 > CALLS) {
+            used = CALLS;
+            return;
+        }
         for (char c : text.toCharArray()) same("feed(" + (int) c + ")", x.feed(c), m.feed(c));
         same("town() of '" + text + "'", x.town(), m.town());
         same("fault()", x.fault(), m.fault());
@@ -159,7 +164,7 @@ public final class ModelTest {
                 same("drift(" + n + ")", x.drift(n), m.drift(n));
                 break;
             }
-            case 9: for (int k = chance(6) ? 18 : 1; k > 0; k--) same("undo()", x.undo(), m.undo()); break;
+            case 9: for (int k = chance(6) ? 18 : 1; k > 0 && used < CALLS; k--) same("undo()", x.undo(), m.undo()); break;
             case 10: if (chance(3)) { int k = near(2); same("keep(" + k + ")", x.keep(k), m.keep(k)); } break;
             default: if (chance(3)) { int k = near(2); same("goBack(" + k + ")", x.goBack(k), m.goBack(k)); } break;
         }

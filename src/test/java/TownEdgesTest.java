@@ -355,6 +355,18 @@ public final class TownEdgesTest {
         x = Edges.tell(Edges.townOf(Edges.TEN), "t2;");
         due("town()", x.town(), 0);
         due("corner(0, 0)", x.corner(0, 0), UNKNOWN);
+        lostCorner();
+        sentence(3, "THE TEXT (it is empty then): nothing is read of an earlier one");
+        for (int length : new int[] {1, 2, 4, 5, 6, 7}) {
+            x = Edges.tell(Edges.townOf(Edges.SQUARE), Edges.SQUARE.substring(0, length));
+            due("town() of " + length + " letters", x.town(), -11);
+            due("fault()", x.fault(), length);
+            due("town() of none", x.town(), 0);
+        }
+        x = Edges.tell(new StreetTongues(), "t2;s0 0;");
+        due("town()", x.town(), -14);
+        due("town() of what is fed behind a fault", Edges.tell(x, "t2;s0 1").town(), -11);
+        due("fault()", x.fault(), 7);
         sentence(3, "IMAGES, what could be undone are gone");
         x = Edges.settled();
         due("told(13)", x.told(13), 5);
@@ -372,6 +384,21 @@ public final class TownEdgesTest {
             y = Edges.tell(Edges.settled(), "x");
             Edges.alike("a faulty town()", Edges.all(x).replace(" | " + at + " 79", " | -1 79"), Edges.all(y));
         }
+    }
+
+    /** Of three streets in a row the last has lost its corner with the new town. */
+    private static void lostCorner() {
+        StreetTongues x = Edges.townOf("t8;s0 1;s0 1;s0 1;i0 1 2 1 0 5;i1 2 2 1 0 5;");
+        due("town()", Edges.tell(x, "t8;s0 1;s0 1;s0 1;i0 1 3 0 0 5;").town(), 3);
+        due("told(8)", x.told(8), 255);
+        due("way(0, 2, 0)", x.way(0, 2, 0), NONE);
+        due("through(0, 0, 2, 1, 0)", x.through(0, 0, 2, 1, 0), NONE);
+        due("ring(2, 0, 0)", x.ring(2, 0, 0), NONE);
+        due("origin(2, 0, 1, -1)", x.origin(2, 0, 1, NONE), 0);
+        due("cut(0, 2, 0)", x.cut(0, 2, 0), 0);
+        due("walk(0)", x.walk(0), NONE);
+        due("more(0)", x.more(0), 2);
+        due("mend(1)", x.mend(1), UNKNOWN);
     }
 
     private static void fault() {
@@ -440,6 +467,13 @@ public final class TownEdgesTest {
         due("told(9), of like ones the least", x.told(9), 0);
         x.say(0, true, 2348);
         due("told(9), in most", x.told(9), 7);
+        sentence(5, "9 BLAME: entries that have it in what was HEARD, not in what was SAID");
+        StreetTongues turn = Edges.townOf("t8;s7 0;s0 7;i0 1 1 0 5 0;");
+        turn.say(0, false, 1);
+        due("told(9), 0 became 5", turn.told(9), NONE);
+        turn = Edges.townOf("t8;s7 0;s0 7;i0 1 2 1 0 0;");
+        turn.say(0, false, 8);
+        due("told(9), 7 became 0", turn.told(9), 0);
         sentence(5, "9 BLAME: entries that THE LOG has lost do not count");
         for (int k = 0; k < 17; k++) x.say(0, false, 3);
         due("told(9), 2 entries to 1", x.told(9), 7);

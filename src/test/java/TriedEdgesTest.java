@@ -237,6 +237,9 @@ public final class TriedEdgesTest {
         StreetTongues x = Edges.townOf(FUNNEL);
         for (int v = 0; v < 8; v++) due("code(0, 6, " + v + ")", x.code(0, 6, v), v < 6 ? 0 : v == 6 ? 127 : 128);
         due("code(0, 6, 8)", x.code(0, 6, 8), UNKNOWN);
+        StreetTongues on = Edges.townOf("t4;s0 1;s0 1;i0 1 2 1 0 0;");
+        for (int v = 0; v < 4; v++) due("code(0, 1, " + v + "), around N", on.code(0, 1, v), v == 0 ? 8 : 1 << v - 1);
+        for (int v = 0; v < 4; v++) due("code(1, 0, " + v + "), around N", on.code(1, 0, v), v == 3 ? 1 : 2 << v);
         StreetTongues two = Edges.townOf("t2;s0 1;s0 1;i0 1 1 0 1 0;");
         due("code(0, 1, 1)", two.code(0, 1, 1), 3);
         due("code(1, 0, 0)", two.code(1, 0, 0), 0);
@@ -369,6 +372,12 @@ public final class TriedEdgesTest {
         three.shut(1, true);
         due("more(1), 100 for four", three.more(1), 400);
         due("more(0)", three.more(0), 2);
+        StreetTongues hub = Edges.townOf("t2;s0 1;s0 1;s0 1;i0 1 3 0 0 7;i2 0 3 0 0 4;");
+        due("more(0), by way of the first STREET", hub.more(0), 12);
+        due("more(1)", hub.more(1), 16);
+        StreetTongues star = Edges.townOf("t2;s0 1;s0 1;s0 1;s0 1;i0 1 3 0 0 1;i2 0 3 0 0 1;i0 3 3 0 0 1;");
+        due("more(0), by way of the first STREET", star.more(0), 12);
+        due("more(1)", star.more(1), 14);
         tried("more(0)", x -> x.more(0), 3);
     }
 
